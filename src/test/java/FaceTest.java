@@ -1,0 +1,95 @@
+import java.lang.reflect.Constructor;
+import java.lang.reflect.Field;
+import java.lang.reflect.Method;
+import java.lang.reflect.Modifier;
+import java.util.HashSet;
+import java.util.Set;
+import java.util.TreeSet;
+
+/** The public face, and what of LANGUAGE.md can be seen on the compiled class. */
+public final class FaceTest {
+    private static final Set<String> CONSTANTS = Set.of(
+        "int LOT_FOR_LOT", "int FIXED_QTY", "int PERIOD_ORDER",
+        "int OK", "int ERR_RANGE", "int ERR_CYCLE", "int ERR_FULL", "int PLAN_TOO_LARGE",
+        "int STEP_NO_PLAN", "int STEP_DONE", "int MAX_EDGES", "long LIMIT",
+        "int ITEM_LEAD", "int ITEM_RULE", "int ITEM_PARAM", "int ITEM_ONHAND",
+        "int ITEM_LEVEL", "int ITEM_PASTDUE", "int ITEM_STOCK",
+        "int CELL_DEMAND", "int CELL_RECEIPT", "int CELL_GROSS", "int CELL_NET",
+        "int CELL_PLANNED", "int CELL_RELEASE", "int CELL_PROJECTED",
+        "int COUNT_ITEMS", "int COUNT_PERIODS", "int COUNT_EDGES", "int COUNT_CURRENT");
+
+    private static final Set<String> METHODS = Set.of(
+        "int addComponent int int int", "boolean removeComponent int int",
+        "boolean setItem int int int int", "boolean setOnHand int int",
+        "boolean setReceipt int int int", "boolean setDemand int int int",
+        "int plan", "int step", "boolean scrap int int", "int getUsage int int",
+        "long getItem int int", "long getCell int int int", "int getCount int");
+
+    public static void main(String[] args) {
+        Check check = new Check();
+        check.due("the class is public and final", MrpPlanner.class.getModifiers(), Modifier.PUBLIC | Modifier.FINAL);
+        check.due("number of nested classes", MrpPlanner.class.getDeclaredClasses().length, 0);
+        constructors(check);
+        methods(check);
+        fields(check);
+        check.end();
+    }
+
+    private static void constructors(Check check) {
+        Constructor<?>[] all = MrpPlanner.class.getDeclaredConstructors();
+        check.due("number of constructors", all.length, 1);
+        check.due("the constructor is public", Modifier.isPublic(all[0].getModifiers()), true);
+        check.due("its parameters are " + types(all[0].getParameterTypes()),
+            types(all[0].getParameterTypes()).equals(" int int"), true);
+    }
+
+    private static void methods(Check check) {
+        Set<String> open = new TreeSet<>();
+        Set<String> openNames = new HashSet<>();
+        for (Method m : MrpPlanner.class.getDeclaredMethods()) {
+            check.due(m.getName() + " has at most seven parameters", m.getParameterCount() <= 7, true);
+            if (!Modifier.isPrivate(m.getModifiers())) {
+                open.add(m.getReturnType() + " " + m.getName() + types(m.getParameterTypes()));
+                openNames.add(m.getName());
+                check.due(m.getName() + " is public alone", m.getModifiers(), Modifier.PUBLIC);
+            }
+        }
+        check.due("the public methods are the document's: " + open, open.equals(METHODS), true);
+        for (Method m : MrpPlanner.class.getDeclaredMethods()) {
+            if (Modifier.isPrivate(m.getModifiers())) {
+                check.due("private " + m.getName() + " bears a public name", openNames.contains(m.getName()), false);
+            }
+        }
+    }
+
+    private static void fields(Check check) {
+        Set<String> open = new TreeSet<>();
+        int held = 0;
+        for (Field f : MrpPlanner.class.getDeclaredFields()) {
+            boolean isConstant = Modifier.isStatic(f.getModifiers());
+            if (isConstant) {
+                check.due(f.getName() + " is final", Modifier.isFinal(f.getModifiers()), true);
+                check.due(f.getName() + " is an int or a long",
+                    f.getType() == int.class || f.getType() == long.class, true);
+            } else {
+                held++;
+                Class<?> unit = f.getType().isArray() ? f.getType().getComponentType() : f.getType();
+                check.due(f.getName() + " is of a number type or an array of one", unit.isPrimitive(), true);
+            }
+            if (!Modifier.isPrivate(f.getModifiers())) {
+                open.add(f.getType() + " " + f.getName());
+                check.due(f.getName() + " is a public constant", isConstant && Modifier.isPublic(f.getModifiers()), true);
+            }
+        }
+        check.due("the public constants are the document's: " + open, open.equals(CONSTANTS), true);
+        check.due("at most forty fields beside the constants", held <= 40, true);
+    }
+
+    private static String types(Class<?>[] all) {
+        StringBuilder names = new StringBuilder();
+        for (Class<?> type : all) {
+            names.append(' ').append(type);
+        }
+        return names.toString();
+    }
+}

@@ -40,6 +40,8 @@ public final class MrpPlanner {
     private static final int MAX_ITEMS = 16;
     private static final int MIN_PERIODS = 4;
     private static final int MAX_PERIODS = 16;
+    // Pairs and cells are held in rows of MAX_ITEMS and MAX_PERIODS, whatever
+    // the object's own sizes are: an array's length must be a constant.
     private static final int MAX_PAIRS = MAX_ITEMS * MAX_ITEMS;
     private static final int MAX_CELLS = MAX_ITEMS * MAX_PERIODS;
 
@@ -395,12 +397,9 @@ public final class MrpPlanner {
     private long parentsTake(int item, int period) {
         long sum = 0;
         for (int parent = 0; parent < itemCount; parent++) {
-            int usage = usages[pairIndex(parent, item)];
-            // Without an edge the parent may not be planned yet in this plan,
-            // and its RELEASE may be left over from an older one.
-            if (usage > 0) {
-                sum += usage * release[cellIndex(parent, period)];
-            }
+            // Where there is no edge, RELEASE may be left over from an older
+            // plan; the usage of 0 keeps it out.
+            sum += usages[pairIndex(parent, item)] * release[cellIndex(parent, period)];
         }
         return sum;
     }
@@ -418,29 +417,27 @@ public final class MrpPlanner {
     }
 
     private long lotSize(int item, int period, long before) {
-        long need = net[cellIndex(item, period)];
+        int cell = cellIndex(item, period);
         int param = params[item];
         // setItem lets no 0 in here; LANGUAGE.md wants a divisor looked at.
         if (rules[item] == FIXED_QTY && param > 0) {
-            return (need + param - 1) / param * param;
+            return (net[cell] + param - 1) / param * param;
         }
         if (rules[item] == PERIOD_ORDER) {
-            return greatestLack(item, period, before);
+            int left = periodCount - period;
+            int span = param < left ? param : left;
+            return greatestLack(cell, span, before);
         }
-        return need;
+        return net[cell];
     }
 
     // The lot must cover the worst point of its periods, not just their end:
     // a receipt late in them does not help the periods before it.
-    private long greatestLack(int item, int first, long before) {
-        int end = first + params[item];
-        if (end > periodCount) {
-            end = periodCount;
-        }
+    private long greatestLack(int firstCell, int span, long before) {
         long lack = -before;
         long greatest = 0;
-        for (int period = first; period < end; period++) {
-            int cell = cellIndex(item, period);
+        for (int k = 0; k < span; k++) {
+            int cell = firstCell + k;
             lack += gross[cell] - receipts[cell];
             if (lack > greatest) {
                 greatest = lack;

@@ -78,7 +78,8 @@ public final class FaceTest {
             }
             if (!Modifier.isPrivate(f.getModifiers())) {
                 open.add(f.getType() + " " + f.getName());
-                check.due(f.getName() + " is a public constant", isConstant && Modifier.isPublic(f.getModifiers()), true);
+                check.due(f.getName() + " is a public constant",
+                    isConstant && Modifier.isPublic(f.getModifiers()), true);
             }
         }
         check.due("the public constants are the document's: " + open, open.equals(CONSTANTS), true);

@@ -117,8 +117,9 @@ public final class Promise08PlanTest {
         check.dueRow(x, 0, PLANNED, 0, 0, 16, 0);
         check.dueRow(x, 0, PROJECTED, 0, 0, 9, 0);
 
-        // A neighbour's numbers must not leak in behind the last period.
+        // The numbers of another item, planned before, must not leak in behind the last period.
         MrpPlanner two = new MrpPlanner(2, 16);
+        two.addComponent(1, 0, 1);
         two.setItem(0, 0, MrpPlanner.PERIOD_ORDER, 8);
         two.setDemand(0, 15, 3);
         two.setDemand(1, 0, 1000);

@@ -11,23 +11,35 @@ final class Check {
     private static final String[] CELL_FIELDS =
         {"DEMAND", "RECEIPT", "GROSS", "NET", "PLANNED", "RELEASE", "PROJECTED"};
 
-    /** More lines than these would bury the first ones, which tell the most. */
-    private static final int MOST_LINES = 50;
+    /** More lines than these of one sentence would bury the first ones, which tell the most. */
+    private static final int MOST_LINES = 10;
 
     private int wrong = 0;
     private int made = 0;
+    private String sentence = "";
+    private int wrongHere = 0;
+
+    /** What the checks from here on belong to; it is printed above those that are not as due. */
+    void belongsTo(String sentence) {
+        this.sentence = sentence;
+        wrongHere = 0;
+    }
+
+    int made() {
+        return made;
+    }
 
     void due(String call, long got, long want) {
         made++;
         if (got != want) {
-            report(call + " answered " + got + ", due is " + want);
+            wrong(call + " answered " + got + ", due is " + want);
         }
     }
 
     void due(String call, boolean got, boolean want) {
         made++;
         if (got != want) {
-            report(call + " answered " + got + ", due is " + want);
+            wrong(call + " answered " + got + ", due is " + want);
         }
     }
 
@@ -39,13 +51,20 @@ final class Check {
         }
     }
 
+    /** LEVEL of every item, in order. */
+    void dueLevels(MrpPlanner x, long... want) {
+        for (int i = 0; i < want.length; i++) {
+            due("LEVEL of " + i, x.getItem(i, MrpPlanner.ITEM_LEVEL), want[i]);
+        }
+    }
+
     /** Just the named answers, and no others, are other than before. */
     void dueChanged(String call, Map<String, Long> before, MrpPlanner x, String... names) {
         made++;
         Set<String> want = new TreeSet<>(Arrays.asList(names));
         Set<String> got = changed(before, answers(x));
         if (!got.equals(want)) {
-            report(call + " changed " + got + ", due is " + want);
+            wrong(call + " changed " + got + ", due is " + want);
         }
     }
 
@@ -59,6 +78,17 @@ final class Check {
         }
         expected.put("CURRENT", -1L);
         dueChanged(call, expected, x, names);
+    }
+
+    void wrong(String line) {
+        wrong++;
+        wrongHere++;
+        if (wrongHere == 1 && !sentence.isEmpty()) {
+            System.out.println(sentence);
+        }
+        if (wrongHere <= MOST_LINES) {
+            System.out.println("  " + line);
+        }
     }
 
     /** Says how it went, and ends the program with 1 if an answer was wrong. */
@@ -94,14 +124,7 @@ final class Check {
         return all;
     }
 
-    private void report(String line) {
-        wrong++;
-        if (wrong <= MOST_LINES) {
-            System.out.println(line);
-        }
-    }
-
-    private static boolean isPlanAnswer(String name) {
+    static boolean isPlanAnswer(String name) {
         String field = name.split(" ")[0];
         return Set.of("GROSS", "NET", "PLANNED", "RELEASE", "PROJECTED", "PASTDUE", "STOCK").contains(field);
     }

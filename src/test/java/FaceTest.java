@@ -9,14 +9,14 @@ import java.util.TreeSet;
 /** The public face, and what of LANGUAGE.md can be seen on the compiled class. */
 public final class FaceTest {
     private static final Set<String> CONSTANTS = Set.of(
-        "int LOT_FOR_LOT", "int FIXED_QTY", "int PERIOD_ORDER",
-        "int OK", "int ERR_RANGE", "int ERR_CYCLE", "int ERR_FULL", "int PLAN_TOO_LARGE",
-        "int STEP_NO_PLAN", "int STEP_DONE", "int MAX_EDGES", "long LIMIT",
-        "int ITEM_LEAD", "int ITEM_RULE", "int ITEM_PARAM", "int ITEM_ONHAND",
-        "int ITEM_LEVEL", "int ITEM_PASTDUE", "int ITEM_STOCK",
-        "int CELL_DEMAND", "int CELL_RECEIPT", "int CELL_GROSS", "int CELL_NET",
-        "int CELL_PLANNED", "int CELL_RELEASE", "int CELL_PROJECTED",
-        "int COUNT_ITEMS", "int COUNT_PERIODS", "int COUNT_EDGES", "int COUNT_CURRENT");
+        "int LOT_FOR_LOT = 0", "int FIXED_QTY = 1", "int PERIOD_ORDER = 2",
+        "int OK = 0", "int ERR_RANGE = -1", "int ERR_CYCLE = -2", "int ERR_FULL = -3", "int PLAN_TOO_LARGE = -4",
+        "int STEP_NO_PLAN = -1", "int STEP_DONE = -2", "int MAX_EDGES = 32", "long LIMIT = 1000000000000",
+        "int ITEM_LEAD = 0", "int ITEM_RULE = 1", "int ITEM_PARAM = 2", "int ITEM_ONHAND = 3",
+        "int ITEM_LEVEL = 4", "int ITEM_PASTDUE = 5", "int ITEM_STOCK = 6",
+        "int CELL_DEMAND = 0", "int CELL_RECEIPT = 1", "int CELL_GROSS = 2", "int CELL_NET = 3",
+        "int CELL_PLANNED = 4", "int CELL_RELEASE = 5", "int CELL_PROJECTED = 6",
+        "int COUNT_ITEMS = 0", "int COUNT_PERIODS = 1", "int COUNT_EDGES = 2", "int COUNT_CURRENT = 3");
 
     private static final Set<String> METHODS = Set.of(
         "int addComponent int int int", "boolean removeComponent int int",
@@ -25,7 +25,7 @@ public final class FaceTest {
         "int plan", "int step", "boolean scrap int int", "int getUsage int int",
         "long getItem int int", "long getCell int int int", "int getCount int");
 
-    public static void main(String[] args) {
+    public static void main(String[] args) throws IllegalAccessException {
         Check check = new Check();
         check.due("the class is public and final", MrpPlanner.class.getModifiers(), Modifier.PUBLIC | Modifier.FINAL);
         check.due("number of nested classes", MrpPlanner.class.getDeclaredClasses().length, 0);
@@ -62,7 +62,7 @@ public final class FaceTest {
         }
     }
 
-    private static void fields(Check check) {
+    private static void fields(Check check) throws IllegalAccessException {
         Set<String> open = new TreeSet<>();
         int held = 0;
         for (Field f : MrpPlanner.class.getDeclaredFields()) {
@@ -77,9 +77,9 @@ public final class FaceTest {
                 check.due(f.getName() + " is of a number type or an array of one", unit.isPrimitive(), true);
             }
             if (!Modifier.isPrivate(f.getModifiers())) {
-                open.add(f.getType() + " " + f.getName());
-                check.due(f.getName() + " is a public constant",
-                    isConstant && Modifier.isPublic(f.getModifiers()), true);
+                boolean isPublic = isConstant && Modifier.isPublic(f.getModifiers());
+                check.due(f.getName() + " is a public constant", isPublic, true);
+                open.add(f.getType() + " " + f.getName() + (isPublic ? " = " + f.get(null) : ""));
             }
         }
         check.due("the public constants are the document's: " + open, open.equals(CONSTANTS), true);

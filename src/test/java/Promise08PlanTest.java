@@ -1,279 +1,306 @@
 import java.util.Map;
 
 public final class Promise08PlanTest {
+    private static final int OK = MrpPlanner.OK;
+    private static final int PLAN_TOO_LARGE = MrpPlanner.PLAN_TOO_LARGE;
+    private static final int CURRENT = MrpPlanner.COUNT_CURRENT;
     private static final int GROSS = MrpPlanner.CELL_GROSS;
-    private static final int NET = MrpPlanner.CELL_NET;
     private static final int PLANNED = MrpPlanner.CELL_PLANNED;
     private static final int RELEASE = MrpPlanner.CELL_RELEASE;
-    private static final int PROJECTED = MrpPlanner.CELL_PROJECTED;
 
     public static void main(String[] args) {
-        Check check = new Check();
-        lotForLot(check);
-        fixedQty(check);
-        fixedQtyEdges(check);
-        periodOrder(check);
-        periodOrderTakesTheWorstPoint(check);
-        periodOrderEndsAtTheHorizon(check);
-        periodOrderOfOne(check);
-        leadAndPastDue(check);
-        longestLead(check);
-        explosion(check);
-        parentWithAHigherNumber(check);
-        emptyPlan(check);
-        limitItself(check);
-        aboveTheLimit(check);
-        aboveTheLimitInTheMiddle(check);
-        onlyGrossIsLimited(check);
-        again(check);
-        check.end();
+        Section section = new Section("Promise 8: plan");
+        section.test("Computes a new plan, as given under The plan, from the current data.",
+            Promise08PlanTest::fromTheCurrentData);
+        section.test("Any old plan and its execution are replaced.",
+            Promise08PlanTest::replacesTheOldPlan);
+        section.test("If the plan fails (some GROSS is greater than LIMIT), the plan is discarded:"
+                + " CURRENT = -1, every plan answer is 0, and the call answers PLAN_TOO_LARGE.",
+            Promise08PlanTest::fails);
+        section.test("Otherwise the new plan is kept, CURRENT becomes 0, STOCK of every item becomes its on-hand,"
+                + " and the call answers OK.",
+            Promise08PlanTest::isKept);
+        section.test("plan() never changes item data or edges.",
+            Promise08PlanTest::leavesTheData);
+        section.test("A GROSS exactly equal to LIMIT does not make the plan fail.",
+            Promise08PlanTest::limitItself);
+        section.test("Calling plan() again with unchanged data gives the same answer.",
+            Promise08PlanTest::theSameAnswerAgain);
+        section.test("If that answer is OK, it yields the same plan values"
+                + " and resets CURRENT to 0 and STOCK to on-hand.",
+            Promise08PlanTest::theSamePlanAgain);
+        section.test("If it is PLAN_TOO_LARGE, there is still no plan (CURRENT = -1, every plan answer 0).",
+            Promise08PlanTest::stillNoPlan);
+        section.test("While a successful plan is kept, for every item i, every item c and every period t:"
+                + " PROJECTED[t] of i is >= 0; GROSS[t] of c equals D[t] of c plus the sum, over all parents p,"
+                + " of getUsage(p, c) * RELEASE of p in t; and the sum over t of RELEASE of i equals"
+                + " the sum over t of PLANNED of i.",
+            Promise08PlanTest::laws);
+        section.end();
     }
 
-    private static MrpPlanner oneItem(int lead, int rule, int param, int... demands) {
-        MrpPlanner x = new MrpPlanner(1, demands.length);
-        x.setItem(0, lead, rule, param);
-        for (int t = 0; t < demands.length; t++) {
-            x.setDemand(0, t, demands[t]);
-        }
-        return x;
-    }
-
-    private static void planned(Check check, MrpPlanner x) {
-        check.due("plan()", x.plan(), MrpPlanner.OK);
-        check.due("CURRENT after plan()", x.getCount(MrpPlanner.COUNT_CURRENT), 0);
-    }
-
-    private static void lotForLot(Check check) {
-        MrpPlanner x = oneItem(0, MrpPlanner.LOT_FOR_LOT, 0, 10, 0, 30, 5);
-        x.setOnHand(0, 4);
-        x.setReceipt(0, 1, 12);
-        x.setReceipt(0, 3, 5);
-        planned(check, x);
-        check.dueRow(x, 0, GROSS, 10, 0, 30, 5);
-        check.dueRow(x, 0, NET, 6, 0, 18, 0);
-        check.dueRow(x, 0, PLANNED, 6, 0, 18, 0);
-        check.dueRow(x, 0, RELEASE, 6, 0, 18, 0);
-        check.dueRow(x, 0, PROJECTED, 0, 12, 0, 0);
-        check.due("PASTDUE", x.getItem(0, MrpPlanner.ITEM_PASTDUE), 0);
-        check.due("STOCK", x.getItem(0, MrpPlanner.ITEM_STOCK), 4);
-    }
-
-    private static void fixedQty(Check check) {
-        MrpPlanner x = oneItem(0, MrpPlanner.FIXED_QTY, 40, 50, 20, 90, 0);
-        x.setOnHand(0, 8);
-        planned(check, x);
-        check.dueRow(x, 0, NET, 42, 0, 72, 0);
-        check.dueRow(x, 0, PLANNED, 80, 0, 80, 0);
-        check.dueRow(x, 0, PROJECTED, 38, 18, 8, 8);
-    }
-
-    private static void fixedQtyEdges(Check check) {
-        // A NET of just k lots, of one less and of one more, and the least and greatest lots.
-        MrpPlanner x = oneItem(0, MrpPlanner.FIXED_QTY, 10, 30, 29, 22, 0);
-        planned(check, x);
-        check.dueRow(x, 0, NET, 30, 29, 21, 0);
-        check.dueRow(x, 0, PLANNED, 30, 30, 30, 0);
-        check.dueRow(x, 0, PROJECTED, 0, 1, 9, 9);
-
-        x = oneItem(0, MrpPlanner.FIXED_QTY, 1, 3, 0, 100000, 1);
-        planned(check, x);
-        check.dueRow(x, 0, PLANNED, 3, 0, 100000, 1);
-
-        x = oneItem(0, MrpPlanner.FIXED_QTY, 10000, 1, 9999, 1, 100000);
-        planned(check, x);
-        check.dueRow(x, 0, PLANNED, 10000, 0, 10000, 100000);
-        check.dueRow(x, 0, PROJECTED, 9999, 0, 9999, 9999);
-    }
-
-    private static void periodOrder(Check check) {
-        MrpPlanner x = oneItem(0, MrpPlanner.PERIOD_ORDER, 3, 0, 10, 20, 30, 40, 50, 60, 70);
-        x.setOnHand(0, 4);
-        x.setReceipt(0, 3, 5);
-        planned(check, x);
-        check.dueRow(x, 0, NET, 0, 6, 0, 0, 40, 0, 0, 70);
-        check.dueRow(x, 0, PLANNED, 0, 51, 0, 0, 150, 0, 0, 70);
-        check.dueRow(x, 0, PROJECTED, 4, 45, 25, 0, 110, 60, 0, 0);
-    }
-
-    private static void periodOrderTakesTheWorstPoint(Check check) {
-        // The receipt in period 2 makes the whole sum smaller than the sum up to period 1.
-        MrpPlanner x = oneItem(0, MrpPlanner.PERIOD_ORDER, 4, 10, 25, 5, 40);
-        x.setReceipt(0, 2, 100);
-        planned(check, x);
-        check.dueRow(x, 0, PLANNED, 35, 0, 0, 0);
-        check.dueRow(x, 0, PROJECTED, 25, 0, 95, 55);
-
-        // And here the receipt in period 1 leaves period 0 itself as the worst point.
-        x = oneItem(0, MrpPlanner.PERIOD_ORDER, 2, 10, 5, 0, 0);
-        x.setReceipt(0, 1, 50);
-        planned(check, x);
-        check.dueRow(x, 0, PLANNED, 10, 0, 0, 0);
-        check.dueRow(x, 0, PROJECTED, 0, 45, 45, 45);
-    }
-
-    private static void periodOrderEndsAtTheHorizon(Check check) {
-        MrpPlanner x = oneItem(0, MrpPlanner.PERIOD_ORDER, 8, 0, 0, 7, 9);
-        planned(check, x);
-        check.dueRow(x, 0, PLANNED, 0, 0, 16, 0);
-        check.dueRow(x, 0, PROJECTED, 0, 0, 9, 0);
-
-        // The numbers of another item, planned before, must not leak in behind the last period.
-        MrpPlanner two = new MrpPlanner(2, 16);
-        two.addComponent(1, 0, 1);
-        two.setItem(0, 0, MrpPlanner.PERIOD_ORDER, 8);
-        two.setDemand(0, 15, 3);
-        two.setDemand(1, 0, 1000);
-        planned(check, two);
-        check.due("PLANNED in the last period", two.getCell(0, 15, PLANNED), 3);
-    }
-
-    private static void periodOrderOfOne(Check check) {
-        MrpPlanner x = oneItem(0, MrpPlanner.PERIOD_ORDER, 1, 3, 0, 8, 2);
-        planned(check, x);
-        check.dueRow(x, 0, PLANNED, 3, 0, 8, 2);
-    }
-
-    private static void leadAndPastDue(Check check) {
-        MrpPlanner x = oneItem(2, MrpPlanner.LOT_FOR_LOT, 0, 1, 20, 300, 4000, 50000);
-        planned(check, x);
-        check.dueRow(x, 0, PLANNED, 1, 20, 300, 4000, 50000);
-        check.dueRow(x, 0, RELEASE, 321, 4000, 50000, 0, 0);
-        // The lot of period 2 is released in period 0 in time: it is not past due.
-        check.due("PASTDUE", x.getItem(0, MrpPlanner.ITEM_PASTDUE), 21);
-    }
-
-    private static void longestLead(Check check) {
-        MrpPlanner x = oneItem(8, MrpPlanner.LOT_FOR_LOT, 0, 0, 0, 5, 7);
-        planned(check, x);
-        check.dueRow(x, 0, RELEASE, 12, 0, 0, 0);
-        check.due("PASTDUE", x.getItem(0, MrpPlanner.ITEM_PASTDUE), 12);
-
-        x = oneItem(8, MrpPlanner.LOT_FOR_LOT, 0, 0, 0, 0, 0, 0, 0, 0, 1, 2, 4);
-        planned(check, x);
-        check.dueRow(x, 0, RELEASE, 3, 4, 0, 0, 0, 0, 0, 0, 0, 0);
-        check.due("PASTDUE", x.getItem(0, MrpPlanner.ITEM_PASTDUE), 1);
-    }
-
-    private static void explosion(Check check) {
-        // 3 is used by 0 itself and by 1 and 2: it waits for both of them.
-        MrpPlanner x = new MrpPlanner(4, 4);
-        x.addComponent(0, 1, 2);
-        x.addComponent(0, 2, 3);
-        x.addComponent(1, 3, 5);
-        x.addComponent(2, 3, 7);
-        x.addComponent(0, 3, 9);
-        x.setItem(0, 1, MrpPlanner.LOT_FOR_LOT, 0);
-        x.setItem(1, 1, MrpPlanner.FIXED_QTY, 25);
-        x.setDemand(0, 3, 10);
-        x.setDemand(3, 2, 6);
-        planned(check, x);
-        check.dueRow(x, 0, RELEASE, 0, 0, 10, 0);
-        check.dueRow(x, 1, GROSS, 0, 0, 20, 0);
-        check.dueRow(x, 1, RELEASE, 0, 25, 0, 0);
-        check.dueRow(x, 2, GROSS, 0, 0, 30, 0);
-        check.dueRow(x, 2, RELEASE, 0, 0, 30, 0);
-        check.dueRow(x, 3, GROSS, 0, 5 * 25, 6 + 7 * 30 + 9 * 10, 0);
-        check.due("PROJECTED of 1", x.getCell(1, 3, PROJECTED), 5);
-    }
-
-    private static void parentWithAHigherNumber(Check check) {
+    private static void fromTheCurrentData(Check check) {
         MrpPlanner x = new MrpPlanner(3, 4);
         x.addComponent(2, 1, 2);
         x.addComponent(1, 0, 3);
         x.setDemand(2, 1, 4);
-        planned(check, x);
+        check.due("plan()", x.plan(), OK);
         check.dueRow(x, 0, GROSS, 0, 24, 0, 0);
+        // An edit shows only in the next plan(), and there in full.
+        x.setOnHand(1, 3);
+        x.setItem(2, 1, MrpPlanner.FIXED_QTY, 5);
+        x.setItem(0, 8, MrpPlanner.LOT_FOR_LOT, 0);
+        x.setReceipt(0, 0, 1);
+        check.due("plan()", x.plan(), OK);
+        check.dueRow(x, 2, RELEASE, 5, 0, 0, 0);
+        check.dueRow(x, 1, RELEASE, 7, 0, 0, 0);
+        check.dueRow(x, 0, GROSS, 21, 0, 0, 0);
+        check.dueRow(x, 0, RELEASE, 20, 0, 0, 0);
+        check.due("PASTDUE", x.getItem(0, MrpPlanner.ITEM_PASTDUE), 20);
 
-        // Another plan with other data must not use releases of the first one.
+        MrpPlanner empty = new MrpPlanner(3, 4);
+        Map<String, Long> before = Check.answers(empty);
+        check.due("plan() of nothing", empty.plan(), OK);
+        check.dueChanged("plan() of nothing", before, empty, "CURRENT");
+    }
+
+    private static void replacesTheOldPlan(Check check) {
+        MrpPlanner x = new MrpPlanner(3, 4);
+        x.addComponent(2, 1, 2);
+        x.addComponent(1, 0, 3);
+        x.setItem(0, 8, MrpPlanner.LOT_FOR_LOT, 0);
+        x.setDemand(2, 1, 4);
+        x.plan();
+        x.step();
+        x.scrap(0, 50);
+        // The edge from 1 to 0 is turned round: no release of the first plan may be used.
         x.setDemand(2, 1, 0);
         x.setDemand(2, 3, 5);
         x.removeComponent(1, 0);
         x.addComponent(0, 1, 1);
-        planned(check, x);
+        check.due("plan()", x.plan(), OK);
         check.dueRow(x, 0, GROSS, 0, 0, 0, 0);
+        check.dueRow(x, 0, RELEASE, 0, 0, 0, 0);
+        check.due("PASTDUE", x.getItem(0, MrpPlanner.ITEM_PASTDUE), 0);
         check.dueRow(x, 1, GROSS, 0, 0, 0, 10);
+        check.due("STOCK", x.getItem(0, MrpPlanner.ITEM_STOCK), 0);
+        check.due("CURRENT", x.getCount(CURRENT), 0);
+
+        // A planner that went through all this plans like one that is new.
+        for (State state : State.values()) {
+            MrpPlanner old = state.make();
+            check.due(state + ": plan()", old.plan(), state == State.TOO_LARGE ? PLAN_TOO_LARGE : OK);
+            check.dueChanged(state + " beside a new one", Check.answers(copyOf(old)), old);
+        }
     }
 
-    private static void emptyPlan(Check check) {
-        MrpPlanner x = new MrpPlanner(3, 4);
+    /** A new planner with the same data and edges, planned. */
+    private static MrpPlanner copyOf(MrpPlanner x) {
+        int items = x.getCount(MrpPlanner.COUNT_ITEMS);
+        int periods = x.getCount(MrpPlanner.COUNT_PERIODS);
+        MrpPlanner copy = new MrpPlanner(items, periods);
+        for (int i = 0; i < items; i++) {
+            copy.setItem(i, (int) x.getItem(i, MrpPlanner.ITEM_LEAD),
+                (int) x.getItem(i, MrpPlanner.ITEM_RULE), (int) x.getItem(i, MrpPlanner.ITEM_PARAM));
+            copy.setOnHand(i, (int) x.getItem(i, MrpPlanner.ITEM_ONHAND));
+            for (int t = 0; t < periods; t++) {
+                copy.setDemand(i, t, (int) x.getCell(i, t, MrpPlanner.CELL_DEMAND));
+                copy.setReceipt(i, t, (int) x.getCell(i, t, MrpPlanner.CELL_RECEIPT));
+            }
+            for (int child = 0; child < items; child++) {
+                if (x.getUsage(i, child) > 0) {
+                    copy.addComponent(i, child, x.getUsage(i, child));
+                }
+            }
+        }
+        copy.plan();
+        return copy;
+    }
+
+    private static void dueTooLarge(Check check, String what, MrpPlanner x) {
         Map<String, Long> before = Check.answers(x);
-        check.due("plan() of nothing", x.plan(), MrpPlanner.OK);
-        check.dueChanged("plan() of nothing", before, x, "CURRENT");
+        check.due(what + ": plan()", x.plan(), PLAN_TOO_LARGE);
+        check.due(what + ": CURRENT", x.getCount(CURRENT), -1);
+        check.dueDiscarded(what, before, x);
+        check.due(what + ": step()", x.step(), MrpPlanner.STEP_NO_PLAN);
+        check.due(what + ": scrap(0, 1)", x.scrap(0, 1), false);
     }
 
-    private static void limitItself(Check check) {
-        MrpPlanner x = Samples.tenMillionfold();
-        x.setDemand(0, 15, 100000);
-        planned(check, x);
-        check.due("GROSS at LIMIT", x.getCell(10, 15, GROSS), MrpPlanner.LIMIT);
-        check.due("PLANNED at LIMIT", x.getCell(10, 15, PLANNED), 1000000000000L);
-    }
-
-    private static void tooLarge(Check check, MrpPlanner x) {
-        Map<String, Long> before = Check.answers(x);
-        check.due("plan()", x.plan(), MrpPlanner.PLAN_TOO_LARGE);
-        check.dueDiscarded("a plan too large", before, x);
-        check.due("step()", x.step(), MrpPlanner.STEP_NO_PLAN);
-        check.due("scrap(0, 1)", x.scrap(0, 1), false);
-    }
-
-    private static void aboveTheLimit(Check check) {
+    private static void fails(Check check) {
         for (int period = 0; period < 16; period++) {
             MrpPlanner x = Samples.tenMillionfold();
+            x.setOnHand(4, 5);
+            x.setDemand(4, period, 5);
             x.setDemand(0, period, 100000);
-            planned(check, x);
+            check.due("plan()", x.plan(), OK);
             x.step();
-            // One unit above LIMIT, and all of the old plan must be gone.
+            // One unit more, and all of the old plan must be gone.
             x.setDemand(10, period, 1);
-            tooLarge(check, x);
-            tooLarge(check, x);
+            dueTooLarge(check, "LIMIT + 1 in " + period, x);
             x.setDemand(10, period, 0);
-            planned(check, x);
+            check.due("plan() of one unit less", x.plan(), OK);
             check.due("GROSS once more", x.getCell(10, period, GROSS), MrpPlanner.LIMIT);
         }
-    }
-
-    private static void aboveTheLimitInTheMiddle(Check check) {
         // 9^8 * 100000 is above LIMIT: item 8 fails, and three more items stand below it.
-        MrpPlanner x = new MrpPlanner(12, 4);
-        for (int i = 0; i < 11; i++) {
-            x.addComponent(i, i + 1, 9);
-        }
+        MrpPlanner x = Samples.chain(12, 4, 1, 9);
         x.setOnHand(11, 100000);
         x.setDemand(0, 0, 100000);
-        tooLarge(check, x);
+        dueTooLarge(check, "in the middle", x);
         x.setDemand(0, 0, 1);
-        planned(check, x);
+        check.due("plan()", x.plan(), OK);
         check.due("GROSS of 11", x.getCell(11, 0, GROSS), 31381059609L);
     }
 
-    private static void onlyGrossIsLimited(Check check) {
-        MrpPlanner x = Samples.tenMillionfold();
-        x.setItem(10, 8, MrpPlanner.PERIOD_ORDER, 8);
-        for (int t = 0; t < 16; t++) {
-            x.setDemand(0, t, 100000);
+    private static void isKept(Check check) {
+        for (State state : State.values()) {
+            if (state != State.TOO_LARGE) {
+                MrpPlanner x = state.make();
+                check.due(state + ": plan()", x.plan(), OK);
+                check.due(state + ": CURRENT", x.getCount(CURRENT), 0);
+                for (int i = 0; i < x.getCount(MrpPlanner.COUNT_ITEMS); i++) {
+                    check.due(state + ": STOCK of " + i,
+                        x.getItem(i, MrpPlanner.ITEM_STOCK), x.getItem(i, MrpPlanner.ITEM_ONHAND));
+                }
+                Map<String, Long> before = Check.answers(x);
+                check.dueChanged(state + ": asked again", before, x);
+                check.due(state + ": step()", x.step(), 0);
+            }
         }
-        planned(check, x);
-        check.due("PLANNED in 0", x.getCell(10, 0, PLANNED), 8 * MrpPlanner.LIMIT);
-        check.due("PLANNED in 8", x.getCell(10, 8, PLANNED), 8 * MrpPlanner.LIMIT);
-        check.due("RELEASE in 0", x.getCell(10, 0, RELEASE), 16 * MrpPlanner.LIMIT);
-        check.due("PASTDUE", x.getItem(10, MrpPlanner.ITEM_PASTDUE), 8 * MrpPlanner.LIMIT);
-        check.due("PROJECTED in 0", x.getCell(10, 0, PROJECTED), 7 * MrpPlanner.LIMIT);
     }
 
-    private static void again(Check check) {
-        MrpPlanner x = Samples.busy();
-        planned(check, x);
+    private static void leavesTheData(Check check) {
+        for (State state : State.values()) {
+            MrpPlanner x = state.make();
+            Map<String, Long> before = Check.answers(x);
+            x.plan();
+            Map<String, Long> after = Check.answers(x);
+            for (String name : before.keySet()) {
+                if (!Check.isPlanAnswer(name) && !name.equals("CURRENT")) {
+                    check.due(state + ": " + name + " after plan()", after.get(name), before.get(name));
+                }
+            }
+        }
+    }
+
+    private static void limitItself(Check check) {
+        for (int period = 0; period < 16; period++) {
+            MrpPlanner x = Samples.tenMillionfold();
+            x.setDemand(0, period, 100000);
+            check.due("LIMIT in " + period, x.plan(), OK);
+            check.due("GROSS in " + period, x.getCell(10, period, GROSS), 1000000000000L);
+            check.due("PLANNED in " + period, x.getCell(10, period, PLANNED), 1000000000000L);
+        }
+        // LIMIT in every period at once; only a single GROSS is measured, not their sum.
+        MrpPlanner all = Samples.tenMillionfold();
+        for (int t = 0; t < 16; t++) {
+            all.setDemand(0, t, 100000);
+        }
+        check.due("LIMIT in every period", all.plan(), OK);
+        // PLANNED and RELEASE may be far above LIMIT.
+        all.setItem(10, 8, MrpPlanner.PERIOD_ORDER, 8);
+        check.due("LIMIT in every period, lots of eight", all.plan(), OK);
+        check.due("RELEASE", all.getCell(10, 0, RELEASE), 16 * MrpPlanner.LIMIT);
+
+        // LIMIT made up of the item's own demand and of its parent's release.
+        MrpPlanner sum = Samples.tenMillionfold();
+        sum.setDemand(0, 3, 100000);
+        sum.setOnHand(9, 30000);
+        sum.setDemand(10, 3, 60000);
+        check.due("LIMIT as a sum", sum.plan(), OK);
+        check.due("GROSS", sum.getCell(10, 3, GROSS), MrpPlanner.LIMIT);
+        sum.setDemand(10, 3, 60001);
+        check.due("LIMIT + 1 as a sum", sum.plan(), PLAN_TOO_LARGE);
+    }
+
+    private static void theSameAnswerAgain(Check check) {
+        for (State state : State.values()) {
+            MrpPlanner x = state.make();
+            int first = x.plan();
+            check.due(state + ": plan()", first, state == State.TOO_LARGE ? PLAN_TOO_LARGE : OK);
+            for (int k = 0; k < 3; k++) {
+                x.step();
+                x.scrap(0, 100000);
+                check.due(state + ": plan() again", x.plan(), first);
+            }
+        }
+    }
+
+    private static void theSamePlanAgain(Check check) {
+        for (State state : State.values()) {
+            if (state != State.TOO_LARGE) {
+                MrpPlanner x = state.make();
+                x.plan();
+                Map<String, Long> first = Check.answers(x);
+                // After no step, after each number of them up to P, and after one too many.
+                for (int steps = 0; steps <= x.getCount(MrpPlanner.COUNT_PERIODS) + 1; steps++) {
+                    for (int k = 0; k < steps; k++) {
+                        x.step();
+                    }
+                    x.scrap(0, 100000);
+                    check.due(state + ": plan() again", x.plan(), OK);
+                    check.dueChanged(state + ": plan() after " + steps + " steps", first, x);
+                }
+            }
+        }
+        // Unchanged data may also be data that were changed and changed back.
+        MrpPlanner x = State.PLANNED.make();
         Map<String, Long> first = Check.answers(x);
-        check.due("STOCK of 2", x.getItem(2, MrpPlanner.ITEM_STOCK), 7);
-        x.step();
-        x.step();
-        x.scrap(1, 3);
-        planned(check, x);
-        check.dueChanged("plan() again", first, x);
         x.setDemand(0, 0, 99);
         x.setDemand(0, 0, 10);
-        planned(check, x);
+        x.plan();
         check.dueChanged("plan() after an edit taken back", first, x);
+    }
+
+    private static void stillNoPlan(Check check) {
+        MrpPlanner x = State.TOO_LARGE.make();
+        for (int k = 0; k < 3; k++) {
+            dueTooLarge(check, "time " + k, x);
+        }
+    }
+
+    private static void laws(Check check) {
+        for (State state : State.values()) {
+            MrpPlanner x = state.make();
+            if (state.hasPlan()) {
+                dueLaws(check, state + " as it is", x);
+                x.plan();
+                while (x.step() >= 0) {
+                    x.scrap(0, 100000);
+                    dueLaws(check, state + " at " + x.getCount(CURRENT), x);
+                }
+            }
+        }
+        MrpPlanner x = Samples.tenMillionfold();
+        x.setItem(0, 3, MrpPlanner.FIXED_QTY, 9999);
+        x.setItem(4, 8, MrpPlanner.PERIOD_ORDER, 3);
+        for (int t = 0; t < 16; t++) {
+            x.setDemand(0, t, 100 + t);
+            x.setReceipt(4, t, 5000 * (t % 3));
+        }
+        check.due("plan()", x.plan(), OK);
+        dueLaws(check, "a chain", x);
+    }
+
+    private static void dueLaws(Check check, String at, MrpPlanner x) {
+        for (int i = 0; i < x.getCount(MrpPlanner.COUNT_ITEMS); i++) {
+            long planned = 0;
+            long released = 0;
+            for (int t = 0; t < x.getCount(MrpPlanner.COUNT_PERIODS); t++) {
+                String cell = at + ", item " + i + ", period " + t + ": ";
+                planned += x.getCell(i, t, PLANNED);
+                released += x.getCell(i, t, RELEASE);
+                check.due(cell + "PROJECTED >= 0", x.getCell(i, t, MrpPlanner.CELL_PROJECTED) >= 0, true);
+                check.due(cell + "GROSS", x.getCell(i, t, GROSS), demandAndUsage(x, i, t));
+            }
+            check.due(at + ", item " + i + ": sum of RELEASE", released, planned);
+        }
+    }
+
+    private static long demandAndUsage(MrpPlanner x, int item, int period) {
+        long sum = x.getCell(item, period, MrpPlanner.CELL_DEMAND);
+        for (int p = 0; p < x.getCount(MrpPlanner.COUNT_ITEMS); p++) {
+            sum += x.getUsage(p, item) * x.getCell(p, period, RELEASE);
+        }
+        return sum;
     }
 }

@@ -51,4 +51,52 @@ final class Samples {
         }
         return x;
     }
+
+    /** One unit above LIMIT in the last period, so that plan() fails; it went well before. */
+    static MrpPlanner tooLarge() {
+        MrpPlanner x = tenMillionfold();
+        x.setOnHand(3, 40);
+        x.setDemand(0, 15, 100000);
+        x.setDemand(3, 2, 60);
+        x.plan();
+        x.step();
+        x.setDemand(10, 15, 1);
+        x.plan();
+        return x;
+    }
+
+    /**
+     * Sixteen items over sixteen periods, no cell empty, each item from 1 to 15 the parent of the one below it,
+     * the plan half executed and one item far below 0.
+     */
+    static MrpPlanner greatest() {
+        MrpPlanner x = new MrpPlanner(16, 16);
+        for (int i = 0; i < 16; i++) {
+            x.setItem(i, i % 9, i % 3, 1 + i % 8);
+            x.setOnHand(i, 100 + i);
+            for (int t = 0; t < 16; t++) {
+                x.setDemand(i, t, 30 + 16 * i + t);
+                x.setReceipt(i, t, 1 + (i + t) % 5);
+            }
+        }
+        for (int i = 0; i < 15; i++) {
+            x.addComponent(15 - i, 14 - i, 1 + i % 2);
+        }
+        x.plan();
+        for (int t = 0; t < 8; t++) {
+            x.step();
+        }
+        x.scrap(5, 100000);
+        return x;
+    }
+
+    /** Each item the parent of the next, from 0 on (way 1) or from the last one back (way -1). */
+    static MrpPlanner chain(int items, int periods, int way, int usage) {
+        MrpPlanner x = new MrpPlanner(items, periods);
+        int top = way > 0 ? 0 : items - 1;
+        for (int k = 0; k + 1 < items; k++) {
+            x.addComponent(top + way * k, top + way * (k + 1), usage);
+        }
+        return x;
+    }
 }

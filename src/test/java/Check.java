@@ -14,10 +14,19 @@ final class Check {
     /** More lines than these of one sentence would bury the first ones, which tell the most. */
     private static final int MOST_LINES = 10;
 
+    /** Far more than any test needs: a call that does not end must fail its test, not hang it. */
+    private static final int MOST_SECONDS = 300;
+
     private int wrong = 0;
     private int made = 0;
-    private String sentence = "";
+    private volatile String sentence = "";
     private int wrongHere = 0;
+
+    Check() {
+        Thread watch = new Thread(this::failWhenTimeIsUp);
+        watch.setDaemon(true);
+        watch.start();
+    }
 
     /** What the checks from here on belong to; it is printed above those that are not as due. */
     void belongsTo(String sentence) {
@@ -127,6 +136,16 @@ final class Check {
     static boolean isPlanAnswer(String name) {
         String field = name.split(" ")[0];
         return Set.of("GROSS", "NET", "PLANNED", "RELEASE", "PROJECTED", "PASTDUE", "STOCK").contains(field);
+    }
+
+    private void failWhenTimeIsUp() {
+        try {
+            Thread.sleep(MOST_SECONDS * 1000L);
+        } catch (InterruptedException e) {
+            return;
+        }
+        System.out.println(sentence + "\n  did not end in " + MOST_SECONDS + " seconds");
+        Runtime.getRuntime().halt(1);
     }
 
     private static Set<String> changed(Map<String, Long> before, Map<String, Long> after) {

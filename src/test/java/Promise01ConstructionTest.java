@@ -115,15 +115,25 @@ public final class Promise01ConstructionTest {
     }
 
     private static void sizesStay(Check check) {
-        int[][] sizes = {{4, 6}, {4, 6}, {4, 6}, {4, 6}, {4, 6}, {11, 16}, {16, 4}, {1, 4}, {16, 16}};
         for (State state : State.values()) {
             MrpPlanner x = state.make();
+            int items = switch (state) {
+                case TOO_LARGE -> 11;
+                case FULL, GREATEST -> 16;
+                case SMALLEST -> 1;
+                default -> 4;
+            };
+            int periods = switch (state) {
+                case TOO_LARGE, GREATEST -> 16;
+                case FULL, SMALLEST -> 4;
+                default -> 6;
+            };
             x.setDemand(16, 16, 1);
             x.addComponent(0, 16, 1);
             x.plan();
             x.step();
-            check.due(state + ": N", x.getCount(MrpPlanner.COUNT_ITEMS), sizes[state.ordinal()][0]);
-            check.due(state + ": P", x.getCount(MrpPlanner.COUNT_PERIODS), sizes[state.ordinal()][1]);
+            check.due(state + ": N", x.getCount(MrpPlanner.COUNT_ITEMS), items);
+            check.due(state + ": P", x.getCount(MrpPlanner.COUNT_PERIODS), periods);
         }
     }
 }

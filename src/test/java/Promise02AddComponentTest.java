@@ -195,6 +195,13 @@ public final class Promise02AddComponentTest {
         add(check, x, 2, 0, 1, ERR_CYCLE);
         add(check, x, 1, 5, 1, ERR_CYCLE);
         add(check, x, 5, 1, 1, OK);
+
+        // With one place left in the bill the chain still decides.
+        MrpPlanner nearlyFull = Samples.full();
+        nearlyFull.removeComponent(0, 1);
+        add(check, nearlyFull, 3, 0, 1, ERR_CYCLE);
+        add(check, nearlyFull, 15, 1, 1, ERR_CYCLE);
+        check.due("edges", nearlyFull.getCount(EDGES), 31);
     }
 
     private static void aNewEdge(Check check) {
@@ -216,7 +223,7 @@ public final class Promise02AddComponentTest {
     }
 
     private static void refusedChangesNothing(Check check) {
-        for (State state : new State[] {State.EDITED, State.PLANNED, State.BUSY, State.DONE}) {
+        for (State state : State.ofFourItems()) {
             Refusals r = new Refusals(check, state);
             r.due("out of range, edge there", r.x.addComponent(0, 1, 10), ERR_RANGE);
             r.due("out of range, no edge", r.x.addComponent(1, 3, 0), ERR_RANGE);
@@ -233,7 +240,7 @@ public final class Promise02AddComponentTest {
     }
 
     private static void changesTheOneEdge(Check check) {
-        for (State state : new State[] {State.EDITED, State.PLANNED, State.BUSY, State.DONE}) {
+        for (State state : State.ofFourItems()) {
             MrpPlanner x = state.make();
             Map<String, Long> before = Check.answers(x);
             add(check, x, 1, 3, 6, OK);

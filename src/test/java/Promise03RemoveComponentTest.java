@@ -96,7 +96,7 @@ public final class Promise03RemoveComponentTest {
     }
 
     private static void theRestStays(Check check) {
-        for (State state : new State[] {State.EDITED, State.PLANNED, State.BUSY, State.DONE}) {
+        for (State state : State.ofFourItems()) {
             removal(check, state, 0, 1, "USAGE 0 1", "EDGES", "LEVEL 1");
             removal(check, state, 0, 2, "USAGE 0 2", "EDGES", "LEVEL 2", "LEVEL 3");
             removal(check, state, 2, 3, "USAGE 2 3", "EDGES", "LEVEL 3");

@@ -149,7 +149,7 @@ public final class Promise04SetItemTest {
     }
 
     private static void theRestStays(Check check) {
-        for (State state : new State[] {State.EDITED, State.PLANNED, State.BUSY, State.DONE}) {
+        for (State state : State.ofFourItems()) {
             for (int item = 0; item < 4; item++) {
                 MrpPlanner x = state.make();
                 Map<String, Long> before = Check.answers(x);

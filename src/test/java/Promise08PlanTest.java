@@ -170,14 +170,32 @@ public final class Promise08PlanTest {
 
     private static void leavesTheData(Check check) {
         for (State state : State.values()) {
-            MrpPlanner x = state.make();
-            Map<String, Long> before = Check.answers(x);
-            x.plan();
-            Map<String, Long> after = Check.answers(x);
-            for (String name : before.keySet()) {
-                if (!Check.isPlanAnswer(name) && !name.equals("CURRENT")) {
-                    check.due(state + ": " + name + " after plan()", after.get(name), before.get(name));
-                }
+            dueDataLeft(check, state + "", state.make(), state == State.TOO_LARGE ? PLAN_TOO_LARGE : OK);
+        }
+        // Data of all kinds that no plan() has seen yet: the first that goes well, and the first that fails.
+        MrpPlanner x = Samples.tenMillionfold();
+        for (int i = 0; i < 11; i++) {
+            x.setItem(i, 8 - i % 4, i % 3, 1 + i % 8);
+            x.setOnHand(i, 100000 - i);
+            for (int t = 0; t < 16; t++) {
+                x.setDemand(i, t, 10 + i + t);
+                x.setReceipt(i, t, 20 + i + t);
+            }
+        }
+        dueDataLeft(check, "going well", x, OK);
+        for (int t = 3; t < 6; t++) {
+            x.setDemand(0, t, 100000);
+        }
+        dueDataLeft(check, "failing", x, PLAN_TOO_LARGE);
+    }
+
+    private static void dueDataLeft(Check check, String what, MrpPlanner x, int want) {
+        Map<String, Long> before = Check.answers(x);
+        check.due(what + ": plan()", x.plan(), want);
+        Map<String, Long> after = Check.answers(x);
+        for (String name : before.keySet()) {
+            if (!Check.isPlanAnswer(name) && !name.equals("CURRENT")) {
+                check.due(what + ": " + name + " after plan()", after.get(name), before.get(name));
             }
         }
     }
@@ -264,9 +282,10 @@ public final class Promise08PlanTest {
             if (state.hasPlan()) {
                 dueLaws(check, state + " as it is", x);
                 x.plan();
-                while (x.step() >= 0) {
+                for (int t = 0; t < x.getCount(MrpPlanner.COUNT_PERIODS); t++) {
+                    x.step();
                     x.scrap(0, 100000);
-                    dueLaws(check, state + " at " + x.getCount(CURRENT), x);
+                    dueLaws(check, state + " after step " + t, x);
                 }
             }
         }

@@ -143,6 +143,33 @@ public final class Promise09StepTest {
         dueStep(check, x, 0, 0, 36, 0);
         dueStep(check, x, 0, 0, 16, 0);
         check.due("PLANNED of 1 in 3", x.getCell(1, 3, MrpPlanner.CELL_PLANNED), 40);
+        byTheFormula(check);
+    }
+
+    private static void byTheFormula(Check check) {
+        for (State state : State.values()) {
+            MrpPlanner x = state.make();
+            boolean isPlanned = x.plan() == MrpPlanner.OK;
+            for (int t = 0; t < x.getCount(MrpPlanner.COUNT_PERIODS) && isPlanned; t++) {
+                x.scrap(t % x.getCount(MrpPlanner.COUNT_ITEMS), 1000);
+                Map<String, Long> before = Check.answers(x);
+                x.step();
+                for (int i = 0; i < x.getCount(MrpPlanner.COUNT_ITEMS); i++) {
+                    long want = before.get("STOCK " + i) + change(x, i, t);
+                    check.due(state + ": STOCK of " + i + " after period " + t, x.getItem(i, STOCK), want);
+                }
+            }
+        }
+    }
+
+    private static long change(MrpPlanner x, int item, int period) {
+        long sum = x.getCell(item, period, MrpPlanner.CELL_RECEIPT)
+            + x.getCell(item, period, MrpPlanner.CELL_PLANNED)
+            - x.getCell(item, period, MrpPlanner.CELL_DEMAND);
+        for (int p = 0; p < x.getCount(MrpPlanner.COUNT_ITEMS); p++) {
+            sum -= x.getUsage(p, item) * x.getCell(p, period, MrpPlanner.CELL_RELEASE);
+        }
+        return sum;
     }
 
     private static void dueStep(Check check, MrpPlanner x, int below, long... stocks) {
@@ -232,17 +259,20 @@ public final class Promise09StepTest {
             if (state != State.TOO_LARGE) {
                 MrpPlanner x = state.make();
                 x.plan();
-                dueStock(check, state, x);
-                while (x.step() >= 0) {
-                    dueStock(check, state, x);
+                dueStock(check, state, x, 0);
+                int periods = x.getCount(MrpPlanner.COUNT_PERIODS);
+                for (int t = 0; t < periods; t++) {
+                    x.step();
+                    dueStock(check, state, x, t + 1);
                 }
-                dueStock(check, state, x);
+                x.step();
+                dueStock(check, state, x, periods);
             }
         }
     }
 
-    private static void dueStock(Check check, State state, MrpPlanner x) {
-        int current = x.getCount(CURRENT);
+    private static void dueStock(Check check, State state, MrpPlanner x, int current) {
+        check.due(state + ": CURRENT", x.getCount(CURRENT), current);
         for (int i = 0; i < x.getCount(MrpPlanner.COUNT_ITEMS); i++) {
             long want = current == 0
                 ? x.getItem(i, MrpPlanner.ITEM_ONHAND)

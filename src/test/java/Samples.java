@@ -3,11 +3,8 @@ final class Samples {
     private Samples() {
     }
 
-    /**
-     * Four items over six periods, planned, one period executed and some stock
-     * scrapped, so that no kind of answer is 0 everywhere. Edges: 0 to 1, 0 to 2, 2 to 3.
-     */
-    static MrpPlanner busy() {
+    /** Four items over six periods, never planned. Edges: 0 to 1, 0 to 2, 2 to 3. */
+    static MrpPlanner unplanned() {
         MrpPlanner x = new MrpPlanner(4, 6);
         x.addComponent(0, 1, 2);
         x.addComponent(0, 2, 3);
@@ -23,6 +20,12 @@ final class Samples {
                 x.setReceipt(i, t, 1 + i + t);
             }
         }
+        return x;
+    }
+
+    /** The same, planned, one period executed and some stock scrapped, so that no kind of answer is 0 everywhere. */
+    static MrpPlanner busy() {
+        MrpPlanner x = unplanned();
         x.plan();
         x.step();
         x.scrap(2, 1000);

@@ -6,6 +6,13 @@ enum State {
             return new MrpPlanner(4, 6);
         }
     },
+    /** Data and edges, but no plan() yet. */
+    UNPLANNED {
+        @Override
+        MrpPlanner make() {
+            return Samples.unplanned();
+        }
+    },
     /** Data and edges, but an edit has discarded the plan. */
     EDITED {
         @Override
@@ -83,8 +90,13 @@ enum State {
 
     abstract MrpPlanner make();
 
+    /** The states of the four items of Samples.unplanned(), whose data and edges are all the same. */
+    static State[] ofFourItems() {
+        return new State[] {UNPLANNED, EDITED, PLANNED, BUSY, DONE};
+    }
+
     /** Whether a planner of this state has a plan. */
     boolean hasPlan() {
-        return this != FRESH && this != EDITED && this != TOO_LARGE;
+        return this != FRESH && this != UNPLANNED && this != EDITED && this != TOO_LARGE;
     }
 }

@@ -17,7 +17,7 @@ final class Document {
     private static final Pattern LIST_MARK = Pattern.compile("^(-|\\d+\\.) ");
     private static final Pattern BOLD_HEADING = Pattern.compile("^\\*\\*([^*]+)\\.\\*\\* ");
     private static final Pattern BOLD_WORD = Pattern.compile("^\\*\\*([^*.]+)\\*\\*");
-    private static final String BETWEEN_SENTENCES = "(?<=\\.) (?=[A-Z`])";
+    private static final String BETWEEN_SENTENCES = "(?<=\\.) (?=[A-Z`]|plan\\(\\))";
 
     private final Map<String, List<String>> sections = new TreeMap<>();
     private String heading = "";

@@ -18,6 +18,8 @@ public final class FaceTest {
         "int CELL_PLANNED = 4", "int CELL_RELEASE = 5", "int CELL_PROJECTED = 6",
         "int COUNT_ITEMS = 0", "int COUNT_PERIODS = 1", "int COUNT_EDGES = 2", "int COUNT_CURRENT = 3");
 
+    private static final String CONSTRUCTOR = "MrpPlanner int int";
+
     private static final Set<String> METHODS = Set.of(
         "int addComponent int int int", "boolean removeComponent int int",
         "boolean setItem int int int int", "boolean setOnHand int int",
@@ -32,15 +34,42 @@ public final class FaceTest {
         constructors(check);
         methods(check);
         fields(check);
+        sameAsWritten(check);
         check.end();
+    }
+
+    /** The lists above are the ones under "The public face" in the document. */
+    private static void sameAsWritten(Check check) {
+        if (!Document.isHere()) {
+            System.out.println("../shared/DOC.md is not here: its public face is not compared");
+            return;
+        }
+        Set<String> constants = new TreeSet<>();
+        Set<String> calls = new TreeSet<>();
+        for (String line : Document.sentences("The public face")) {
+            if (line.startsWith("public static final ")) {
+                constants.add(line.replaceAll("^public static final |L?;$", ""));
+            } else if (line.startsWith("public ") && line.endsWith(")")) {
+                calls.add(withoutNames(line.substring("public ".length())));
+            }
+        }
+        Set<String> listed = new TreeSet<>(METHODS);
+        listed.add(CONSTRUCTOR);
+        check.due("the document's constants are the ones listed: " + constants, constants.equals(CONSTANTS), true);
+        check.due("the document's calls are the ones listed: " + calls, calls.equals(listed), true);
+    }
+
+    /** A call as in METHODS: the names of its parameters are gone, since a compiled class does not have them. */
+    private static String withoutNames(String call) {
+        return call.replaceAll(" \\w+(?=[,)])", "").replaceAll("[ (,)]+", " ").strip();
     }
 
     private static void constructors(Check check) {
         Constructor<?>[] all = MrpPlanner.class.getDeclaredConstructors();
         check.due("number of constructors", all.length, 1);
         check.due("the constructor is public", Modifier.isPublic(all[0].getModifiers()), true);
-        check.due("its parameters are " + types(all[0].getParameterTypes()),
-            types(all[0].getParameterTypes()).equals(" int int"), true);
+        String made = all[0].getName() + types(all[0].getParameterTypes());
+        check.due("the constructor is the document's: " + made, made.equals(CONSTRUCTOR), true);
     }
 
     private static void methods(Check check) {
